@@ -767,15 +767,14 @@ public final class WidenDesk {
                 case CHAR: return (char) v;
                 case SHORT: return (short) v;
                 case INT: return (int) v;
-                case FLOAT: return floatCode(v, EIGHTHS);
-                case DOUBLE: return doubleCode(v, EIGHTHS);
-                default: return v;
+                case LONG: return v;
+                default: return nearest(kind, v, EIGHTHS);
             }
         }
 
-        /** The code of a whole number in a type that has it, or whose nearest value is meant. */
+        /** The code of a whole number: of the nearest value if it is of type float or double. */
         static long ofWhole(int kind, long v) {
-            return kind == FLOAT ? floatCode(v, 0) : kind == DOUBLE ? doubleCode(v, 0) : v;
+            return kind == FLOAT || kind == DOUBLE ? nearest(kind, v, 0) : v;
         }
 
         /** Called only where the one type widens to the other. */
@@ -783,7 +782,10 @@ public final class WidenDesk {
             if (from == to) {
                 return code;
             }
-            return from == FLOAT ? doubleOfFloat(code) : ofWhole(to, code);
+            if (from == FLOAT) {
+                return doubleOfFloat(code);
+            }
+            return to < FLOAT ? code : nearest(to, code, 0);
         }
 
         /** Whether a type, 1 to 7, has the very number of a value of another such type. */
@@ -846,14 +848,20 @@ public final class WidenDesk {
             return kind == FLOAT ? doubleOfFloat(code) : code;
         }
 
-        private static long floatCode(long v, int scale) {
-            long bits = rounded(v, scale, FLOAT_BITS, FLOAT_BIAS);
-            return v < 0L ? (int) (bits | 1L << 31) : bits;
+        /** The code of the float or double that is nearest to v / 2^scale. */
+        private static long nearest(int kind, long v, int scale) {
+            if (kind == FLOAT) {
+                return signedFloat(v < 0L, rounded(v, scale, FLOAT_BITS, FLOAT_BIAS));
+            }
+            return signedDouble(v < 0L, rounded(v, scale, DOUBLE_BITS, DOUBLE_BIAS));
         }
 
-        private static long doubleCode(long v, int scale) {
-            long bits = rounded(v, scale, DOUBLE_BITS, DOUBLE_BIAS);
-            return v < 0L ? bits | LEAST_LONG : bits;
+        private static long signedFloat(boolean negative, long bits) {
+            return negative ? (int) (bits | 1L << 31) : bits;
+        }
+
+        private static long signedDouble(boolean negative, long bits) {
+            return negative ? bits | LEAST_LONG : bits;
         }
 
         /** The bits, but for the sign, of v / 2^scale with so many fraction bits, a tie to the even ones. */
@@ -886,8 +894,7 @@ public final class WidenDesk {
             }
             long exponent = (code >> FLOAT_BITS & FLOAT_EXPONENTS) + EXTRA_BIAS;
             long fraction = code & (1L << FLOAT_BITS) - 1L;
-            long size = exponent << DOUBLE_BITS | fraction << EXTRA_BITS;
-            return code < 0L ? size | LEAST_LONG : size;
+            return signedDouble(code < 0L, exponent << DOUBLE_BITS | fraction << EXTRA_BITS);
         }
 
         private static long floatOfDouble(long code) {
@@ -896,8 +903,7 @@ public final class WidenDesk {
             }
             long exponent = (code >> DOUBLE_BITS & DOUBLE_EXPONENTS) - EXTRA_BIAS;
             long fraction = (code & (1L << DOUBLE_BITS) - 1L) >> EXTRA_BITS;
-            long size = exponent << FLOAT_BITS | fraction;
-            return code < 0L ? (int) (size | 1L << 31) : size;
+            return signedFloat(code < 0L, exponent << FLOAT_BITS | fraction);
         }
 
         /** Whether the number of a double is one of type long. */
