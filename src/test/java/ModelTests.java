@@ -16,7 +16,7 @@ import java.util.Set;
  * java.lang.reflect.Array, real floats and doubles, BigDecimal, and copies of the whole state for undo.
  */
 public final class ModelTests {
-    private static final int RUNS = 3000;
+    private static final int RUNS = 5000;
     private static final int CALLS = 512;
     private static int wrong = 0;
 

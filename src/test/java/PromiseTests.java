@@ -722,7 +722,8 @@ public final class PromiseTests {
             {7, (1L << 53) - 8, 5, 1}, {7, (1L << 53) - 8, 6, 0}, {6, (1L << 24) - 1, 5, 0}, {6, (1L << 24) - 8, 5, 1},
             {6, (1L << 27) + 8, 5, 1}, {4, 1 << 24, 6, 1}, {4, (1 << 24) + 1, 6, 0}, {4, Integer.MAX_VALUE, 6, 0},
             {4, Integer.MAX_VALUE, 7, 1}, {4, Integer.MIN_VALUE, 6, 1}, {4, -5, 5, 1}, {4, -5, 2, 0}, {2, 65535, 3, 0}, {2, 65535, 4, 1},
-            {1, -1, 2, 0}, {1, -1, 3, 1}, {3, 200, 1, 0}};
+            {1, -1, 2, 0}, {1, -1, 3, 1}, {3, 200, 1, 0}, {7, (1L << 52) + 1, 6, 0}, {7, (1L << 54) + 4, 5, 0}, {7, -16, 6, 1},
+            {7, 0, 6, 1}, {7, 8L * ((1 << 24) + 1), 6, 0}, {7, 8L * ((1 << 24) + 2), 6, 1}, {5, -(1L << 31) - 1, 4, 0}};
         for (long[] c : cases) {
             WidenDesk x = new WidenDesk();
             x.make(0, (int) c[0], 1);
@@ -1228,6 +1229,8 @@ public final class PromiseTests {
         dueHand(x, 3, 9, 5, 0);
         keepsFourteen();
         keepsDroppedArrays();
+        keepsTheOldestArray();
+        nothingStaysNothing();
     }
 
     private static void keepsFourteen() {
@@ -1247,31 +1250,57 @@ public final class PromiseTests {
         due("cell(0,0,1)", x.cell(0, 0, 1), 6);
     }
 
+    private static void dueFilled(WidenDesk x, int slot, long code) {
+        dueCells(x, slot, 4, code, 4, code);
+    }
+
     /** As many arrays as can be held at once: one in each slot, and one for each act that is kept. */
     private static void keepsDroppedArrays() {
         WidenDesk x = new WidenDesk();
-        for (int round = 0; round < 40; round++) {
-            x.make(round % 10, 4, 2);
-            x.scatter(round % 10, round);
-        }
-        long[] before = new long[10];
-        for (int slot = 0; slot < 10; slot++) {
-            before[slot] = x.cell(slot, 1, 1);
-        }
-        for (int i = 0; i < 14; i++) {
+        for (int i = 0; i < 30; i++) {
             spell(x, "i" + i + "," + i);
             x.tell(i % 10);
         }
         for (int slot = 0; slot < 10; slot++) {
-            int last = slot < 4 ? slot + 10 : slot;
-            dueCells(x, slot, 4, last, 4, last);
+            dueFilled(x, slot, slot + 20);
+        }
+        for (int i = 13; i >= 0; i--) {
+            due("undo()", x.undo(), i);
+            dueFilled(x, (i + 16) % 10, i + 6);
+        }
+        for (int slot = 0; slot < 10; slot++) {
+            dueFilled(x, slot, slot < 6 ? slot + 10 : slot);
+        }
+    }
+
+    /** The oldest act that is kept still holds its array when newer acts were undone and others follow. */
+    private static void keepsTheOldestArray() {
+        WidenDesk x = new WidenDesk();
+        for (int i = 0; i < 16; i++) {
+            spell(x, "i" + i + "," + i);
+            x.tell(0);
+        }
+        x.undo();
+        x.undo();
+        x.undo();
+        for (int i = 1; i < 4; i++) {
+            due("make(" + i + ",7,6)", x.make(i, 7, 6), 15);
         }
         for (int i = 13; i >= 0; i--) {
             due("undo()", x.undo(), i);
         }
-        for (int slot = 0; slot < 10; slot++) {
-            due("cell(" + slot + ",1,1)", x.cell(slot, 1, 1), before[slot]);
+        dueFilled(x, 0, 1);
+    }
+
+    private static void nothingStaysNothing() {
+        WidenDesk x = new WidenDesk();
+        for (int i = 0; i < 30; i++) {
+            x.make(i % 10, 4, 2);
         }
+        due("make(0,15,0)", x.make(0, 15, 0), 4);
+        due("thing(0,0)", x.thing(0, 0), 15);
+        due("thing(0,1)", x.thing(0, 1), NONE);
+        due("about(6)", x.about(6), 1);
     }
 
     public static void main(String[] args) {
