@@ -192,6 +192,20 @@ public final class BoundaryArrayTests extends Boundary {
         due("thing(4,1)", x.thing(4, 1), 0);
     }
 
+    @Says("Puts a new array into a slot")
+    static void promise28JoinChangesNoOtherArray() {
+        for (int slot = 0; slot < 10; slot++) {
+            WidenDesk x = new WidenDesk();
+            tellInAllSlots(x, "i", "7", 10);
+            // each new array may be kept next to any of the others
+            for (int i = 0; i < 8; i++) {
+                x.cut(slot, slot, i % 2 == 0 ? 3 : 0);
+                due("join(" + slot + "," + slot + "," + slot + ")", x.join(slot, slot, slot), 4);
+                dueOthers(x, slot, 7);
+            }
+        }
+    }
+
     // ---- 29 cut
 
     @Says({"`span`: 10 * (index of the first element) + (number of elements); all these elements have to exist "
@@ -273,6 +287,21 @@ public final class BoundaryArrayTests extends Boundary {
         dueHand(x, 3, 8, 31, 1);
     }
 
+    @Says("Puts a new array of the same type into a slot")
+    static void promise29CutChangesNoOtherArray() {
+        for (int slot = 0; slot < 10; slot++) {
+            WidenDesk x = new WidenDesk();
+            tellInAllSlots(x, "i", "7", 10);
+            layValue(x, slot, 0, 4, 8);
+            layValue(x, slot, 5, 4, 9);
+            for (int i = 0; i < 16; i++) {
+                due("cut(" + slot + "," + slot + ",6)", x.cut(slot, slot, 6), 4);
+            }
+            dueOthers(x, slot, 7);
+            dueCells(x, slot, 4, 8, 4, 7, 4, 7, 4, 7, 4, 7, 4, 9);
+        }
+    }
+
     // ---- 30 alike
 
     @Says("errors: UNKNOWN; LATE if one of the slots holds no array.")
@@ -324,6 +353,21 @@ public final class BoundaryArrayTests extends Boundary {
         dueAlike("i1,2,3", "i1,2", 2);
         dueAlike("i", "t5", 0);
         dueAlike("i", "t", NONE);
+    }
+
+    @Says("the length of the shorter array if there is none, but the lengths differ")
+    static void promise30AlikeTellsTheShorterLengthAlsoAfterManyArrays() {
+        String[] texts = {"i", "i7", "i7,7", "i7,7,7", "i7,7,7,7", "i7,7,7,7,7", "i7,7,7,7,7,7"};
+        WidenDesk x = worn("i", "7");
+        for (int slot = 0; slot <= 6; slot++) {
+            spell(x, texts[slot]);
+            x.tell(slot);
+        }
+        for (int one = 0; one <= 6; one++) {
+            for (int other = 0; other <= 6; other++) {
+                due("alike(" + one + "," + other + ")", x.alike(one, other), one == other ? NONE : Math.min(one, other));
+            }
+        }
     }
 
     @Says("if both are boxes whose types have a least common type (see least()) and both, widened to it, are the same value")
@@ -459,6 +503,17 @@ public final class BoundaryArrayTests extends Boundary {
         due("unlike(0)", x.unlike(0), 5);
     }
 
+    @Says("Counts the different elements of an array")
+    static void promise31UnlikeCountsNoElementOfOtherArrays() {
+        for (int length = 0; length <= 6; length++) {
+            WidenDesk x = worn("i", "7");
+            for (int slot = 0; slot < 10; slot++) {
+                x.make(slot, slot % 2 == 0 ? 4 : 12, length);
+                due("unlike(" + slot + ") of " + length, x.unlike(slot), length == 0 ? 0 : 1);
+            }
+        }
+    }
+
     // ---- 32 total
 
     @Says({"`kind`: 4 for int, 5 for long", "errors: UNKNOWN; BAD."})
@@ -552,6 +607,25 @@ public final class BoundaryArrayTests extends Boundary {
             dueHand(x, 1, 4, (int) sums[i], NONE);
             due("total(0,5) of " + texts[i], x.total(0, 5), 0);
             dueHand(x, 1, 5, sums[i], NONE);
+        }
+    }
+
+    @Says("Adds all elements of an array")
+    static void promise32TotalAddsNoElementOfOtherArrays() {
+        for (int length = 0; length <= 6; length++) {
+            WidenDesk x = worn("i", "7");
+            for (int slot = 0; slot < 10; slot++) {
+                x.make(slot, 4, length);
+                x.scatter(slot, slot);
+            }
+            for (int slot = 0; slot < 10; slot++) {
+                int sum = 0;
+                for (int place = 0; place < length; place++) {
+                    sum += (int) x.cell(slot, place, 1);
+                }
+                due("total(" + slot + ",4) of " + length, x.total(slot, 4), 0);
+                dueHand(x, 1, 4, sum, NONE);
+            }
         }
     }
 

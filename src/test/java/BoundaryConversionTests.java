@@ -298,6 +298,21 @@ public final class BoundaryConversionTests extends Boundary {
         }
     }
 
+    @Says("Converts the elements of an array into elements of another one")
+    static void promise22ConvertChangesNoOtherArray() {
+        for (int slot = 1; slot < 9; slot++) {
+            for (int how = 0; how < 4; how++) {
+                WidenDesk x = new WidenDesk();
+                tellInAllSlots(x, "i", "7", 10);
+                x.scatter(slot, 5);
+                due("convert(0," + slot + "," + how + ")", x.convert(0, slot, how), 6);
+                dueOthers(x, -1, 7);
+                due("undo()", x.undo(), 11);
+                dueOthers(x, slot, 7);
+            }
+        }
+    }
+
     @Says("rounded as by a Java cast where it becomes a float or double")
     static void promise22ConvertRoundsWhereItWidens() {
         for (int how = 0; how < 3; how++) {
@@ -529,7 +544,8 @@ public final class BoundaryConversionTests extends Boundary {
 
     // ---- 26 ends
 
-    @Says({"`kind`: the last type, 0 to 7", "errors: UNKNOWN; BAD"})
+    @Says({"`kind`: the last type, 0 to 7", "errors: UNKNOWN; BAD",
+        "NONE is not an error; it means \"there is none\" and is returned only if no error applies."})
     static void promise26EndsSaysUnknownThenBadThenNone() {
         for (int slot : NO_SLOTS) {
             stays(Boundary::busy, "ends(" + slot + ",0,7)", x -> x.ends(slot, 0, 7), UNKNOWN);

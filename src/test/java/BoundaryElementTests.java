@@ -83,7 +83,7 @@ public final class BoundaryElementTests extends Boundary {
         }
     }
 
-    @Says("Returns the reason, 0 to 6; errors: UNKNOWN; BAD.")
+    @Says({"`kind`: the type, 0 to 7", "Returns the reason, 0 to 6; errors: UNKNOWN; BAD."})
     static void promise18TakeSaysUnknownThenBadThenTheReason() {
         for (int slot : NO_SLOTS) {
             stays(Boundary::busy, "take(" + slot + ",0,4)", x -> x.take(slot, 0, 4), UNKNOWN);
@@ -262,7 +262,10 @@ public final class BoundaryElementTests extends Boundary {
         + "one of type text or any; nothing into any array of type 8 to 12 (the element is empty then).",
         "If the type does not fit, the reason is 4 for a value and an array of type 8 to 12, otherwise 2.",
         "6 both the array has no such index, and the reason would be 2 or 4 with an index that exists",
-        "7 empty nothing is written to an array of type 0 to 7 (with any index)"})
+        "7 empty nothing is written to an array of type 0 to 7 (with any index)", "2 unlike the types do not fit",
+        "4 objects a value is read from or written to an array of type 8 to 12",
+        "An element of type mark is empty or a mark, of type star empty or a star, of type text empty or a text, of type "
+        + "whole empty or a box of type int"})
     static void promise20LayKnowsWhatFitsIntoWhich() {
         for (int type = 0; type < 13; type++) {
             for (int which = 0; which < 20; which++) {
@@ -389,6 +392,20 @@ public final class BoundaryElementTests extends Boundary {
         }
     }
 
+    @Says("Puts what the hand holds into an element.")
+    static void promise20LayChangesNoOtherArray() {
+        for (int slot = 0; slot < 10; slot++) {
+            for (int place : new int[] {0, 5}) {
+                WidenDesk x = new WidenDesk();
+                tellInAllSlots(x, "i", "7", 10);
+                layValue(x, slot, place, 4, 8);
+                dueOthers(x, slot, 7);
+                due("undo()", x.undo(), 10);
+                dueOthers(x, -1, 7);
+            }
+        }
+    }
+
     // ---- 21 scatter
 
     private static void checkScattered(int type, int length, long first) {
@@ -451,6 +468,18 @@ public final class BoundaryElementTests extends Boundary {
             WidenDesk x = array(type, 0);
             due("scatter(0,5)", x.scatter(0, 5), 0);
             due("about(1)", x.about(1), 2);
+        }
+    }
+
+    @Says("Fills an array of a primitive type with pseudo-random values")
+    static void promise21ScatterChangesNoOtherArray() {
+        for (int slot = 0; slot < 10; slot++) {
+            WidenDesk x = new WidenDesk();
+            tellInAllSlots(x, "i", "7", 10);
+            due("scatter(" + slot + ",5)", x.scatter(slot, 5), 6);
+            dueOthers(x, slot, 7);
+            due("undo()", x.undo(), 10);
+            dueOthers(x, -1, 7);
         }
     }
 

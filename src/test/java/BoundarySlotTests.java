@@ -267,6 +267,34 @@ public final class BoundarySlotTests extends Boundary {
         due("thing(0,0)", x.thing(0, 0), 4);
     }
 
+    @Says("Puts a new thing into a slot.")
+    static void promise07MakeChangesNoOtherArray() {
+        for (int slot = 0; slot < 10; slot++) {
+            for (int length = 0; length <= 6; length += 3) {
+                WidenDesk x = new WidenDesk();
+                tellInAllSlots(x, "i", "7", 10);
+                // each new array may be kept next to any of the others
+                for (int i = 0; i < 16; i++) {
+                    due("make(" + slot + ",4," + length + ")", x.make(slot, 4, length), 4);
+                }
+                dueOthers(x, slot, 7);
+            }
+        }
+    }
+
+    @Says("15 nothing, as at first")
+    static void promise07MakeOfNothingIsNothingAlsoAfterAllSlotsWereFull() {
+        WidenDesk x = new WidenDesk();
+        tellInAllSlots(x, "i", "7", 40);
+        due("make(0,15,0)", x.make(0, 15, 0), 4);
+        due("thing(0,0)", x.thing(0, 0), 15);
+        due("thing(0,1)", x.thing(0, 1), NONE);
+        due("about(6)", x.about(6), 1);
+        due("make(9,15,0)", x.make(9, 15, 0), 4);
+        due("fetch(9,0)", x.fetch(9, 0), 5);
+        due("about(6)", x.about(6), 2);
+    }
+
     // ---- 8 share
 
     @Says({"`from`: a slot, 0 to 9", "`to`: a slot, 0 to 9"})
@@ -349,7 +377,8 @@ public final class BoundarySlotTests extends Boundary {
         }
     }
 
-    @Says("errors: UNKNOWN; BAD; for what = 1 LATE if it holds a single text or mark")
+    @Says({"errors: UNKNOWN; BAD; for what = 1 LATE if it holds a single text or mark",
+        "NONE is not an error; it means \"there is none\" and is returned only if no error applies."})
     static void promise09ThingSaysUnknownThenBadThenLate() {
         for (int slot : NO_SLOTS) {
             for (int what : outside(0, 1)) {

@@ -405,6 +405,58 @@ public final class BoundaryUndoTests extends Boundary {
         due("about(4)", x.about(4), 10);
     }
 
+    @Says("The latest 14 acts are kept and can be undone.")
+    static void promise36UndoKeepsOneArrayPerSlotAndOnePerAct() {
+        for (int acts = 20; acts <= 40; acts++) {
+            WidenDesk x = new WidenDesk();
+            for (int i = 0; i < acts; i++) {
+                spell(x, "i" + i);
+                x.tell(i % 10);
+            }
+            for (int slot = 0; slot < 10; slot++) {
+                due("cell(" + slot + ",0,1) of " + acts, x.cell(slot, 0, 1), latest(acts, slot));
+            }
+            for (int left = 13; left >= 0; left--) {
+                due("undo() of " + acts, x.undo(), left);
+                int before = acts - 14 + left;
+                due("cell(" + before % 10 + ",0,1) of " + acts, x.cell(before % 10, 0, 1), before < 10 ? LATE : before - 10);
+            }
+            for (int slot = 0; slot < 10; slot++) {
+                due("cell(" + slot + ",0,1) of " + acts, x.cell(slot, 0, 1), latest(acts - 14, slot));
+            }
+        }
+    }
+
+    /** The last of so many acts, from 0 on, that was done with a slot; LATE, as the slot holds no array, if there is none. */
+    private static int latest(int acts, int slot) {
+        int latest = LATE;
+        for (int i = slot; i < acts; i += 10) {
+            latest = i;
+        }
+        return latest;
+    }
+
+    @Says("The latest 14 acts are kept and can be undone.")
+    static void promise36UndoKeepsTheArrayOfTheOldestActToTheLast() {
+        for (int undone = 0; undone <= 13; undone++) {
+            WidenDesk x = new WidenDesk();
+            for (int i = 0; i < 16; i++) {
+                spell(x, "i" + i);
+                x.tell(0);
+            }
+            for (int i = 0; i < undone; i++) {
+                x.undo();
+            }
+            for (int i = 0; i < undone; i++) {
+                x.make(1 + i % 9, 7, 6);
+            }
+            for (int left = 13; left >= 0; left--) {
+                due("undo()", x.undo(), left);
+            }
+            dueCells(x, 0, 4, 1);
+        }
+    }
+
     @Says("Undoes the latest act that is kept")
     static void promise36UndoGoesOnBehindActsThatCameAfterAnUndo() {
         WidenDesk x = array(4, 1);

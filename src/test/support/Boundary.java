@@ -329,6 +329,35 @@ class Boundary {
         return x;
     }
 
+    /** Slots that hold nothing, on a desk on which as many arrays as it can keep at once were filled with an element. */
+    static WidenDesk worn(String letter, String element) {
+        WidenDesk x = new WidenDesk();
+        tellInAllSlots(x, letter, element, 30);
+        for (int slot = 0; slot < 10; slot++) {
+            x.make(slot, 15, 0);
+        }
+        return x;
+    }
+
+    /** Puts new arrays of 6 such elements into the slots, from slot 0 on and around again. */
+    static void tellInAllSlots(WidenDesk x, String letter, String element, int count) {
+        spell(x, letter + element + ("," + element).repeat(5));
+        for (int i = 0; i < count; i++) {
+            x.tell(i % 10);
+        }
+    }
+
+    /** The first and the last element of all slots but one are still such. */
+    static void dueOthers(WidenDesk x, int slot, long code) {
+        for (int other = 0; other < 10; other++) {
+            if (other != slot) {
+                due("thing(" + other + ",1)", x.thing(other, 1), 6);
+                due("cell(" + other + ",0,1)", x.cell(other, 0, 1), code);
+                due("cell(" + other + ",5,1)", x.cell(other, 5, 1), code);
+            }
+        }
+    }
+
     // ---- numbers
 
     /** The first values that are refused on either side of a range, and the ends of int. */
