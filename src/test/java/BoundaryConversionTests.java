@@ -243,6 +243,29 @@ public final class BoundaryConversionTests extends Boundary {
         dueReport(x, 0, 0, 2);
     }
 
+    @Says("and the other array has a type 1 to 7")
+    static void promise22ConvertPutsBoxesAsTheyAreIntoArraysOfObjects() {
+        for (int type = 0; type < 8; type++) {
+            for (int how = 2; how < 4; how++) {
+                WidenDesk x = array(type, 6);
+                x.make(1, 12, 6);
+                x.scatter(0, 3);
+                due("convert(0,1," + how + ") of " + type, x.convert(0, 1, how), 6);
+                for (int place = 0; place < 6; place++) {
+                    due("cell(1," + place + ",0) of " + type, x.cell(1, place, 0), type);
+                    due("cell(1," + place + ",1) of " + type, x.cell(1, place, 1), x.cell(0, place, 1));
+                }
+            }
+        }
+        WidenDesk x = desk("i-5", "w*", "oi7");
+        due("convert(0,1,3)", x.convert(0, 1, 3), 1);
+        dueCells(x, 1, 4, -5);
+        due("convert(2,1,3)", x.convert(2, 1, 3), 1);
+        dueCells(x, 1, 4, 7);
+        due("convert(1,2,3)", x.convert(1, 2, 3), 1);
+        dueCells(x, 2, 4, 7);
+    }
+
     @Says({"Returns how many elements have the reason 0 (an element with another reason stays as it is)",
         "convert() if at least one element has the reason 0"})
     static void promise22ConvertIsAnActIfOneElementIsFine() {
