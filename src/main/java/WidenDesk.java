@@ -36,7 +36,7 @@ public final class WidenDesk {
     private final Marks marks;
     private final Views views;
     /** Which row of the shelf each slot holds. */
-    private final int[] slots;
+    private final int[] rowOf;
     private final int[] reasons;
     private int reasonCount;
     private int handForm;
@@ -50,7 +50,7 @@ public final class WidenDesk {
         log = new Log();
         marks = new Marks();
         views = new Views();
-        slots = new int[SLOTS];
+        rowOf = new int[SLOTS];
         reasons = new int[CELLS];
         reasonCount = 0;
         handForm = NO_FORM;
@@ -127,7 +127,7 @@ public final class WidenDesk {
             return UNKNOWN;
         }
         int shared = thingIn(from);
-        replace(to, slots[from]);
+        replace(to, rowOf[from]);
         return shared;
     }
 
@@ -144,14 +144,14 @@ public final class WidenDesk {
         if (thingIn(slot) == NOTHING) {
             return NONE;
         }
-        return holdsArray(slot) ? shelf.lengths[slots[slot]] : LATE;
+        return holdsArray(slot) ? shelf.lengths[rowOf[slot]] : LATE;
     }
 
     public int same(int one, int other) {
         if (!isSlot(one) || !isSlot(other)) {
             return UNKNOWN;
         }
-        return holdsArray(one) && slots[one] == slots[other] ? 1 : 0;
+        return holdsArray(one) && rowOf[one] == rowOf[other] ? 1 : 0;
     }
 
     public long cell(int slot, int place, int what) {
@@ -161,7 +161,7 @@ public final class WidenDesk {
         if (!holdsArray(slot)) {
             return LATE;
         }
-        int row = slots[slot];
+        int row = rowOf[slot];
         if (!shelf.has(row, place) || what < 0 || what > 2) {
             return BAD;
         }
@@ -244,7 +244,7 @@ public final class WidenDesk {
         if (!isPrimitive(kind)) {
             return BAD;
         }
-        int row = slots[slot];
+        int row = rowOf[slot];
         int type = thingIn(slot);
         int reason = Rules.placed(Rules.getFit(type, kind), shelf.has(row, place));
         if (reason == FINE) {
@@ -259,8 +259,8 @@ public final class WidenDesk {
         }
         int reason = fetchReason(slot, place);
         if (reason == FINE) {
-            int type = shelf.typeAt(slots[slot], place);
-            hold(Rules.fetchedForm(type), type, shelf.codeAt(slots[slot], place));
+            int type = shelf.typeAt(rowOf[slot], place);
+            hold(Rules.fetchedForm(type), type, shelf.codeAt(rowOf[slot], place));
         }
         return reason;
     }
@@ -269,7 +269,7 @@ public final class WidenDesk {
         if (!isSlot(slot)) {
             return UNKNOWN;
         }
-        int row = slots[slot];
+        int row = rowOf[slot];
         int fit = Rules.putFit(thingIn(slot), handForm, handType);
         int reason = Rules.placed(fit, shelf.has(row, place));
         if (reason == FINE) {
@@ -287,7 +287,7 @@ public final class WidenDesk {
         if (!isPrimitive(type)) {
             return LATE;
         }
-        int row = slots[slot];
+        int row = rowOf[slot];
         int length = shelf.lengths[row];
         log.keepCells(row, shelf);
         long state = x;
@@ -310,8 +310,8 @@ public final class WidenDesk {
         if (how < 0 || how > 3) {
             return BAD;
         }
-        int source = slots[from];
-        int target = slots[to];
+        int source = rowOf[from];
+        int target = rowOf[to];
         int fine = 0;
         reasonCount = Math.min(shelf.lengths[source], shelf.lengths[target]);
         for (int place = 0; place < reasonCount; place++) {
@@ -350,7 +350,7 @@ public final class WidenDesk {
         if (reason != FINE) {
             return reason;
         }
-        return carryThrough(shelf.typeAt(slots[slot], place), shelf.codeAt(slots[slot], place), way);
+        return carryThrough(shelf.typeAt(rowOf[slot], place), shelf.codeAt(rowOf[slot], place), way);
     }
 
     public int ends(int slot, int place, int kind) {
@@ -360,20 +360,20 @@ public final class WidenDesk {
         if (!isPrimitive(kind)) {
             return BAD;
         }
-        int row = slots[slot];
+        int row = rowOf[slot];
         if (!shelf.has(row, place) || !isPrimitive(shelf.typeAt(row, place))) {
             return NONE;
         }
         return Numbers.countEnds(shelf.codeAt(row, place), shelf.typeAt(row, place), kind);
     }
 
-    public int least(int set) {
-        if (set < 1 || set > GREATEST_SET) {
+    public int least(int slots) {
+        if (slots < 1 || slots > GREATEST_SET) {
             return BAD;
         }
         int common = Numbers.ALL_PRIMITIVES;
         for (int slot = 0; slot < SLOTS; slot++) {
-            if ((set >> slot & 1) == 1) {
+            if ((slots >> slot & 1) == 1) {
                 if (!isPrimitive(thingIn(slot))) {
                     return LATE;
                 }
@@ -392,8 +392,8 @@ public final class WidenDesk {
         if (!holdsArray(one) || !holdsArray(other)) {
             return LATE;
         }
-        int first = slots[one];
-        int second = slots[other];
+        int first = rowOf[one];
+        int second = rowOf[other];
         int length = shelf.lengths[first] + shelf.lengths[second];
         if (length > CELLS) {
             return FULL;
@@ -413,7 +413,7 @@ public final class WidenDesk {
         if (!holdsArray(from)) {
             return LATE;
         }
-        int source = slots[from];
+        int source = rowOf[from];
         int start = span / 10;
         int count = span % 10;
         if (span < 0 || start + count > shelf.lengths[source]) {
@@ -433,8 +433,8 @@ public final class WidenDesk {
         if (!holdsArray(one) || !holdsArray(other)) {
             return LATE;
         }
-        int first = slots[one];
-        int second = slots[other];
+        int first = rowOf[one];
+        int second = rowOf[other];
         int shorter = Math.min(shelf.lengths[first], shelf.lengths[second]);
         for (int place = 0; place < shorter; place++) {
             if (!shelf.agree(first, second, place)) {
@@ -451,7 +451,7 @@ public final class WidenDesk {
         if (!holdsArray(slot)) {
             return LATE;
         }
-        int row = slots[slot];
+        int row = rowOf[slot];
         int different = 0;
         for (int place = 0; place < shelf.lengths[row]; place++) {
             if (!shelf.stoodBefore(row, place)) {
@@ -468,7 +468,7 @@ public final class WidenDesk {
         if (kind != INT && kind != LONG) {
             return BAD;
         }
-        int row = slots[slot];
+        int row = rowOf[slot];
         int length = shelf.lengths[row];
         int reason = holdsArray(slot) && length == 0 ? FINE : Rules.getFit(thingIn(slot), kind);
         if (reason != FINE) {
@@ -515,7 +515,7 @@ public final class WidenDesk {
         int act = log.removeLatest();
         switch (log.sorts[act]) {
             case Log.SLOT_ACT:
-                slots[log.spots[act]] = log.rows[act];
+                rowOf[log.spots[act]] = log.rows[act];
                 break;
             case Log.CELLS_ACT:
                 log.restoreCells(act, shelf);
@@ -555,7 +555,7 @@ public final class WidenDesk {
     }
 
     private int thingIn(int slot) {
-        return shelf.things[slots[slot]];
+        return shelf.things[rowOf[slot]];
     }
 
     private boolean holdsArray(int slot) {
@@ -577,12 +577,12 @@ public final class WidenDesk {
     }
 
     private int fetchReason(int slot, int place) {
-        return Rules.placed(Rules.fetchFit(thingIn(slot)), shelf.has(slots[slot], place));
+        return Rules.placed(Rules.fetchFit(thingIn(slot)), shelf.has(rowOf[slot], place));
     }
 
     private void replace(int slot, int row) {
-        log.keepSlot(slot, slots[slot]);
-        slots[slot] = row;
+        log.keepSlot(slot, rowOf[slot]);
+        rowOf[slot] = row;
     }
 
     private int newRow(int thing, int length) {
@@ -606,7 +606,7 @@ public final class WidenDesk {
 
     private int firstSlotOf(int row) {
         int slot = 0;
-        while (slot < SLOTS && slots[slot] != row) {
+        while (slot < SLOTS && rowOf[slot] != row) {
             slot++;
         }
         return slot;
@@ -615,7 +615,7 @@ public final class WidenDesk {
     private int countArrays(boolean elements) {
         int sum = 0;
         for (int slot = 0; slot < SLOTS; slot++) {
-            int row = slots[slot];
+            int row = rowOf[slot];
             if (holdsArray(slot) && firstSlotOf(row) == slot) {
                 sum += elements ? shelf.lengths[row] : 1;
             }
